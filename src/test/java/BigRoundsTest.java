@@ -107,8 +107,6 @@ public final class BigRoundsTest {
         long least = NEVER;
         int leastMoves = 99;
         int leastGoing = 0;
-        int bestGoers = 0;
-        int bestHosts = 0;
         long unit = powers[0] * 200;
         for (int goers = 0; goers < 1 << n; goers++) {
             long[] lightest = lightest(goers, before, out, unit);
@@ -125,12 +123,9 @@ public final class BigRoundsTest {
                     leastMoves = moves;
                     leastGoing = going;
                     least = rest;
-                    bestGoers = goers;
-                    bestHosts = hosts;
                 }
             }
         }
-        Check.due("some are best", bestGoers >= 0 && Integer.bitCount(bestGoers) == Integer.bitCount(bestHosts), true);
         return homesBy(least % powers[0]);
     }
 

@@ -26,7 +26,6 @@ public final class RunsTest {
     private final HostYear x = new HostYear();
     private final Model m = new Model();
     private final int mostFamilies;
-    private String told = "";
 
     private RunsTest(int seed, int mostFamilies) {
         this.random = new Random(seed);
@@ -49,9 +48,8 @@ public final class RunsTest {
         Check.end("RunsTest");
     }
 
-    private void due(String call, int got, int want) {
-        told = call;
-        Check.due(told, got, want);
+    private static void due(String call, int got, int want) {
+        Check.due(call, got, want);
     }
 
     /** Facts with which some can go, so that the runs are not all about nobody. */
