@@ -114,7 +114,6 @@ public final class HostYear {
     private int today = 0;
     private int lastTerm = 0;
     private int years = 0;
-    private int faultPlace = NONE;
 
     public HostYear() {
     }
@@ -145,7 +144,6 @@ public final class HostYear {
         }
         int fault = parser.parse(tape);
         tape.length = 0;
-        faultPlace = fault == 0 ? NONE : parser.faultPlace;
         if (fault == 0 && slot == 0) {
             first = parser.exchange(first);
         } else if (fault == 0) {
@@ -155,7 +153,7 @@ public final class HostYear {
     }
 
     public int place() {
-        return faultPlace;
+        return parser.faultPlace;
     }
 
     public int family() {
@@ -669,6 +667,7 @@ public final class HostYear {
             open = 0;
             fault = 0;
             lateFault = 0;
+            latePlace = NONE;
             for (int i = 0; i <= MAX_TRAITS && sees(TRAIT_WORD); i++) {
                 readTrait();
             }

@@ -240,6 +240,10 @@ public final class PromisesTest {
         Check.due("5: place of the latest", x.place(), 5);
         Check.read(x, 0, "cost 1;");
         Check.due("5: place without", x.place(), NONE);
+        Check.read(x, 0, "cost p.x;");
+        Check.due("5: place of a late one", x.place(), 7);
+        Check.read(x, 0, "cost 1;");
+        Check.due("5: place without, behind a late one", x.place(), NONE);
     }
 
     private static void family() {
