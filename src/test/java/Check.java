@@ -23,6 +23,24 @@ final class Check {
         due(call, got ? 1 : 0, want ? 1 : 0);
     }
 
+    static void dueGoes(String title, HostYear x, int... homes) {
+        for (int p = 0; p < homes.length; p++) {
+            due(title + ": goes(" + p + ")", x.goes(p), homes[p]);
+        }
+    }
+
+    static void dueYear(String title, HostYear x, int... homes) {
+        for (int p = 0; p < homes.length; p++) {
+            due(title + ": of(" + p + ", 0)", x.of(p, 0), homes[p]);
+        }
+    }
+
+    static void dueRead(String text, int fault, int place) {
+        HostYear x = new HostYear();
+        due("read of <" + text + ">", read(x, 0, text), fault);
+        due("place of <" + text + ">", x.place(), place);
+    }
+
     static void end(String name) {
         System.out.println(name + ": " + made + " answers, " + wrong + " of them not as due");
         if (wrong != 0 || made == 0) {

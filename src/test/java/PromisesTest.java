@@ -39,45 +39,6 @@ public final class PromisesTest {
         Check.end("PromisesTest");
     }
 
-    private static HostYear withFamilies(int n) {
-        HostYear x = new HostYear();
-        for (int f = 0; f < n; f++) {
-            x.family();
-        }
-        return x;
-    }
-
-    /** n FAMILIES that all send one and take one in, with the WISHES p, h, v, p, h, v .. */
-    private static HostYear wishing(int n, int... wishes) {
-        HostYear x = withFamilies(n);
-        for (int f = 0; f < n; f++) {
-            x.tell(f, 0, 1);
-            x.tell(f, 1, 1);
-        }
-        for (int i = 0; i + 2 < wishes.length; i += 3) {
-            x.tell(wishes[i], 20 + wishes[i + 1], wishes[i + 2]);
-        }
-        return x;
-    }
-
-    private static void dueGoes(String title, HostYear x, int... homes) {
-        for (int p = 0; p < homes.length; p++) {
-            Check.due(title + ": goes(" + p + ")", x.goes(p), homes[p]);
-        }
-    }
-
-    private static void dueYear(String title, HostYear x, int... homes) {
-        for (int p = 0; p < homes.length; p++) {
-            Check.due(title + ": of(" + p + ", 0)", x.of(p, 0), homes[p]);
-        }
-    }
-
-    private static void dueRead(String text, int fault, int at) {
-        HostYear x = new HostYear();
-        Check.due("read of <" + text + ">", Check.read(x, 0, text), fault);
-        Check.due("place of <" + text + ">", x.place(), at);
-    }
-
     private static void newObject() {
         HostYear x = new HostYear();
         for (int what = 0; what <= 8; what++) {
@@ -148,87 +109,87 @@ public final class PromisesTest {
         Check.due("4: a fault changes nothing", x.count(7), 2);
         Check.due("4: an empty tape", x.read(1), 0);
         Check.due("4: is an empty text", x.count(7), 0);
-        dueRead("trait\ta;\ntrait b2;\rbar p.a<h.b2;cost-1 if 1<=2 and 2!=3 or not[1==1];", 0, NONE);
-        dueRead("trait trait1;trait pp;cost p . trait1 * h . pp;", 0, NONE);
-        dueRead("cost 0007;", 0, NONE);
-        dueRead("cost 12if 1<2;", 0, NONE);
+        Check.dueRead("trait\ta;\ntrait b2;\rbar p.a<h.b2;cost-1 if 1<=2 and 2!=3 or not[1==1];", 0, NONE);
+        Check.dueRead("trait trait1;trait pp;cost p . trait1 * h . pp;", 0, NONE);
+        Check.dueRead("cost 0007;", 0, NONE);
+        Check.dueRead("cost 12if 1<2;", 0, NONE);
     }
 
     private static void faultsOfSyntax() {
-        dueRead("cost", 1, 4);
-        dueRead("cost 1  ", 1, 8);
-        dueRead("bar 1;", 1, 5);
-        dueRead("bar 1 = 1;", 1, 6);
-        dueRead("bar 1 === 1;", 1, 8);
-        dueRead("bar 1 > 1;", 1, 6);
-        dueRead("bar 1 < = 1;", 1, 8);
-        dueRead("bar [1 == 1;", 1, 11);
-        dueRead("bar (1 == 1);", 1, 7);
-        dueRead("bar [1] == 1;", 1, 6);
-        dueRead("bar 1 == 1 == 1;", 1, 11);
-        dueRead("bar not not;", 1, 11);
-        dueRead("cost 12345;", 1, 5);
-        dueRead("cost --1;", 1, 6);
-        dueRead("cost 1*-1;", 1, 7);
-        dueRead("cost +1;", 1, 5);
-        dueRead("cost (1;", 1, 7);
-        dueRead("cost ();", 1, 6);
-        dueRead("cost a;", 1, 5);
-        dueRead("cost p;", 1, 6);
-        dueRead("cost p.p;", 1, 7);
-        dueRead("cost p.1;", 1, 7);
-        dueRead("cost 1 if;", 1, 9);
-        dueRead("cost 1 if 1==1 if 1==1;", 1, 15);
-        dueRead("trait p;", 1, 6);
-        dueRead("trait cost;", 1, 6);
-        dueRead("trait abcdefghi;", 1, 6);
-        dueRead("trait Abc;", 1, 6);
-        dueRead("trait aB;", 1, 7);
-        dueRead("trait 1a;", 1, 6);
-        dueRead("trait a", 1, 7);
-        dueRead("trait a;;", 1, 8);
-        dueRead("cost 1;trait a;", 1, 7);
-        dueRead(";", 1, 0);
-        dueRead(" \u000b", 1, 1);
-        dueRead("cost 1;\u00a0", 1, 7);
+        Check.dueRead("cost", 1, 4);
+        Check.dueRead("cost 1  ", 1, 8);
+        Check.dueRead("bar 1;", 1, 5);
+        Check.dueRead("bar 1 = 1;", 1, 6);
+        Check.dueRead("bar 1 === 1;", 1, 8);
+        Check.dueRead("bar 1 > 1;", 1, 6);
+        Check.dueRead("bar 1 < = 1;", 1, 8);
+        Check.dueRead("bar [1 == 1;", 1, 11);
+        Check.dueRead("bar (1 == 1);", 1, 7);
+        Check.dueRead("bar [1] == 1;", 1, 6);
+        Check.dueRead("bar 1 == 1 == 1;", 1, 11);
+        Check.dueRead("bar not not;", 1, 11);
+        Check.dueRead("cost 12345;", 1, 5);
+        Check.dueRead("cost --1;", 1, 6);
+        Check.dueRead("cost 1*-1;", 1, 7);
+        Check.dueRead("cost +1;", 1, 5);
+        Check.dueRead("cost (1;", 1, 7);
+        Check.dueRead("cost ();", 1, 6);
+        Check.dueRead("cost a;", 1, 5);
+        Check.dueRead("cost p;", 1, 6);
+        Check.dueRead("cost p.p;", 1, 7);
+        Check.dueRead("cost p.1;", 1, 7);
+        Check.dueRead("cost 1 if;", 1, 9);
+        Check.dueRead("cost 1 if 1==1 if 1==1;", 1, 15);
+        Check.dueRead("trait p;", 1, 6);
+        Check.dueRead("trait cost;", 1, 6);
+        Check.dueRead("trait abcdefghi;", 1, 6);
+        Check.dueRead("trait Abc;", 1, 6);
+        Check.dueRead("trait aB;", 1, 7);
+        Check.dueRead("trait 1a;", 1, 6);
+        Check.dueRead("trait a", 1, 7);
+        Check.dueRead("trait a;;", 1, 8);
+        Check.dueRead("cost 1;trait a;", 1, 7);
+        Check.dueRead(";", 1, 0);
+        Check.dueRead(" \u000b", 1, 1);
+        Check.dueRead("cost 1;\u00a0", 1, 7);
     }
 
     private static void faultsOfRoom() {
         String nine = "trait a;trait b;trait c;trait d;trait e;trait f;trait g;trait i;";
-        dueRead(nine, 0, NONE);
-        dueRead(nine + "trait j;", 2, 64);
-        dueRead(nine + "trait;", 2, 64);
-        dueRead("cost 1;".repeat(20), 0, NONE);
-        dueRead("cost 1;".repeat(20) + "bar 1==1;", 2, 140);
-        dueRead("cost 1;".repeat(20) + "trait a;", 1, 140);
-        dueRead("cost " + "(".repeat(8) + "1" + ")".repeat(8) + ";", 0, NONE);
-        dueRead("cost " + "(".repeat(9) + "1" + ")".repeat(9) + ";", 2, 13);
-        dueRead("cost " + "(".repeat(8) + "1" + ")".repeat(8) + "(1);", 1, 22);
-        dueRead("cost " + "(".repeat(8) + "1" + ")".repeat(8) + "*(1);", 0, NONE);
-        dueRead("bar " + "not ".repeat(8) + "1==1;", 0, NONE);
-        dueRead("bar " + "not ".repeat(9) + "1==1;", 2, 36);
-        dueRead("bar " + "not ".repeat(8) + "(1)==1;", 2, 36);
-        dueRead("bar " + "not ".repeat(8) + "1==1 and not 1==1;", 0, NONE);
-        dueRead("bar not [ not [ not [ not [ (1)==1 ] ] ] ];", 2, 28);
-        dueRead("bar not [ not [ not [ not [ 1==1 ] ] ] ] or not [(1)==1];", 0, NONE);
-        dueRead("cost 1" + "+1".repeat(298) + ";cost", 1, 607);
+        Check.dueRead(nine, 0, NONE);
+        Check.dueRead(nine + "trait j;", 2, 64);
+        Check.dueRead(nine + "trait;", 2, 64);
+        Check.dueRead("cost 1;".repeat(20), 0, NONE);
+        Check.dueRead("cost 1;".repeat(20) + "bar 1==1;", 2, 140);
+        Check.dueRead("cost 1;".repeat(20) + "trait a;", 1, 140);
+        Check.dueRead("cost " + "(".repeat(8) + "1" + ")".repeat(8) + ";", 0, NONE);
+        Check.dueRead("cost " + "(".repeat(9) + "1" + ")".repeat(9) + ";", 2, 13);
+        Check.dueRead("cost " + "(".repeat(8) + "1" + ")".repeat(8) + "(1);", 1, 22);
+        Check.dueRead("cost " + "(".repeat(8) + "1" + ")".repeat(8) + "*(1);", 0, NONE);
+        Check.dueRead("bar " + "not ".repeat(8) + "1==1;", 0, NONE);
+        Check.dueRead("bar " + "not ".repeat(9) + "1==1;", 2, 36);
+        Check.dueRead("bar " + "not ".repeat(8) + "(1)==1;", 2, 36);
+        Check.dueRead("bar " + "not ".repeat(8) + "1==1 and not 1==1;", 0, NONE);
+        Check.dueRead("bar not [ not [ not [ not [ (1)==1 ] ] ] ];", 2, 28);
+        Check.dueRead("bar not [ not [ not [ not [ 1==1 ] ] ] ] or not [(1)==1];", 0, NONE);
+        Check.dueRead("cost 1" + "+1".repeat(298) + ";cost", 1, 607);
         // 599 TOKENS, then the 600th, the 601st.
         String most = "cost 1" + "+1".repeat(298);
-        dueRead(most + ";", 0, NONE);
-        dueRead("cost -1" + "+1".repeat(298) + ";", 0, NONE);
-        dueRead("cost 1" + "+1".repeat(299) + ";", 2, 604);
-        dueRead("cost 1" + "+1".repeat(299) + "?", 1, 604);
-        dueRead("cost 1" + "+1".repeat(299) + ")", 1, 604);
-        dueRead("cost 1" + "+1".repeat(299), 1, 604);
+        Check.dueRead(most + ";", 0, NONE);
+        Check.dueRead("cost -1" + "+1".repeat(298) + ";", 0, NONE);
+        Check.dueRead("cost 1" + "+1".repeat(299) + ";", 2, 604);
+        Check.dueRead("cost 1" + "+1".repeat(299) + "?", 1, 604);
+        Check.dueRead("cost 1" + "+1".repeat(299) + ")", 1, 604);
+        Check.dueRead("cost 1" + "+1".repeat(299), 1, 604);
     }
 
     private static void lateFaults() {
-        dueRead("trait a;trait b;trait a;trait b;", 3, 22);
-        dueRead("trait a;trait a;cost p.b;", 3, 14);
-        dueRead("trait a;cost p.b + h.c;", 4, 15);
-        dueRead("trait a;cost h.a + h.c;", 4, 21);
-        dueRead("trait a;trait a;cost p.b", 1, 24);
-        dueRead("trait a;trait a;" + "cost p.b;".repeat(21), 2, 16 + 180);
+        Check.dueRead("trait a;trait b;trait a;trait b;", 3, 22);
+        Check.dueRead("trait a;trait a;cost p.b;", 3, 14);
+        Check.dueRead("trait a;cost p.b + h.c;", 4, 15);
+        Check.dueRead("trait a;cost h.a + h.c;", 4, 21);
+        Check.dueRead("trait a;trait a;cost p.b", 1, 24);
+        Check.dueRead("trait a;trait a;" + "cost p.b;".repeat(21), 2, 16 + 180);
     }
 
     private static void place() {
@@ -286,7 +247,7 @@ public final class PromisesTest {
     }
 
     private static void tell() {
-        HostYear x = withFamilies(3);
+        HostYear x = Given.families(3);
         int[][] edges = {
             {0, 0, 1}, {1, 0, 1}, {2, 0, 1}, {3, 0, 1}, {4, 0, 100000}, {5, 0, 1000},
             {10, -999, 999}, {17, -999, 999}, {20, 0, 9}, {22, 0, 9}
@@ -315,7 +276,7 @@ public final class PromisesTest {
     }
 
     private static void known() {
-        HostYear x = withFamilies(2);
+        HostYear x = Given.families(2);
         x.clock(3);
         x.tell(0, 10, 4);
         x.tell(0, 10, 5);
@@ -341,7 +302,7 @@ public final class PromisesTest {
     }
 
     private static void why() {
-        HostYear x = withFamilies(2);
+        HostYear x = Given.families(2);
         Check.read(x, 0, "trait t; cost 5; bar p.t == 1; bar h.t < p.t;");
         Check.due("11: itself ahead of all", x.why(0, 0, 1, 1), 1);
         Check.due("11: no pupil", x.why(0, 0, 0, 1), 2);
@@ -375,7 +336,7 @@ public final class PromisesTest {
     }
 
     private static int costBy(String text) {
-        HostYear x = wishing(2, 0, 1, 3);
+        HostYear x = Given.wishing(2, 0, 1, 3);
         x.tell(0, 10, -7);
         x.tell(1, 10, 20);
         Check.due("12: read of <" + text + ">", Check.read(x, 1, text), 0);
@@ -401,7 +362,7 @@ public final class PromisesTest {
         // 9999 * 9999 * 9999 is 999700029999, by 32 bits -1031018577.
         Check.due("12: wraps", costBy("cost 9999 * 9999 * 9999;"), 0);
         Check.due("12: wraps to more", costBy("cost -9999 * 9999 * 9999;"), 10000);
-        HostYear x = wishing(2, 0, 1, 3);
+        HostYear x = Given.wishing(2, 0, 1, 3);
         Check.due("12: it may not", x.cost(0, 0, 1, 0), NONE);
         Check.due("12: to itself", x.cost(0, 0, 0, 0), NONE);
         Check.read(x, 0, "bar 1 == 1; cost 1;");
@@ -411,53 +372,53 @@ public final class PromisesTest {
 
     private static void roundMostGo() {
         // A ring of three is dearer than one of two, but more go.
-        HostYear x = wishing(3, 0, 1, 9, 1, 2, 9, 2, 0, 9, 0, 2, 1);
+        HostYear x = Given.wishing(3, 0, 1, 9, 1, 2, 9, 2, 0, 9, 0, 2, 1);
         Check.due("13: three go", x.round(0, 0), 3);
-        dueGoes("13", x, 1, 2, 0);
+        Check.dueGoes("13", x, 1, 2, 0);
         Check.due("15: costs()", x.costs(), 27);
         // Two rings of two against two others: the least COST.
-        x = wishing(4, 0, 1, 2, 1, 0, 2, 2, 3, 2, 3, 2, 2, 0, 2, 1, 2, 0, 1, 1, 3, 2, 3, 1, 2);
+        x = Given.wishing(4, 0, 1, 2, 1, 0, 2, 2, 3, 2, 3, 2, 2, 0, 2, 1, 2, 0, 1, 1, 3, 2, 3, 1, 2);
         Check.due("13: four go", x.round(0, 0), 4);
-        dueGoes("13: least cost", x, 2, 3, 0, 1);
+        Check.dueGoes("13: least cost", x, 2, 3, 0, 1);
         Check.due("15: costs() of these", x.costs(), 6);
     }
 
     private static void roundChains() {
-        HostYear x = wishing(3, 0, 1, 1, 1, 2, 1);
+        HostYear x = Given.wishing(3, 0, 1, 1, 1, 2, 1);
         Check.due("13: no chain without an end", x.round(0, 0), 0);
         x.tell(2, 2, 1);
         Check.due("13: nor without a beginning", x.round(0, 0), 0);
         x.tell(0, 3, 1);
         Check.due("13: a chain", x.round(0, 0), 2);
-        dueGoes("13: chain", x, 1, 2, NONE);
+        Check.dueGoes("13: chain", x, 1, 2, NONE);
         x.tell(1, 3, 1);
         x.tell(0, 3, 0);
         Check.due("13: a shorter chain", x.round(0, 0), 1);
-        dueGoes("13: shorter", x, NONE, 2, NONE);
+        Check.dueGoes("13: shorter", x, NONE, 2, NONE);
         x.tell(2, 2, 0);
         Check.due("13: none who takes one in", x.round(0, 0), 0);
     }
 
     private static void roundOrder() {
         // All the same: PUPIL 0 to HOME 1, the others to the least that is left.
-        HostYear x = wishing(4, 0, 1, 1, 0, 2, 1, 0, 3, 1, 1, 0, 1, 1, 2, 1, 1, 3, 1,
+        HostYear x = Given.wishing(4, 0, 1, 1, 0, 2, 1, 0, 3, 1, 1, 0, 1, 1, 2, 1, 1, 3, 1,
             2, 0, 1, 2, 1, 1, 2, 3, 1, 3, 0, 1, 3, 1, 1, 3, 2, 1);
         Check.due("13: all four", x.round(0, 0), 4);
-        dueGoes("13: in order", x, 1, 0, 3, 2);
+        Check.dueGoes("13: in order", x, 1, 0, 3, 2);
         // One of two may go to the one home that is given: none stands behind all, so 0 goes.
-        x = wishing(3, 0, 2, 5, 1, 2, 5);
+        x = Given.wishing(3, 0, 2, 5, 1, 2, 5);
         x.tell(0, 3, 1);
         x.tell(1, 3, 1);
         x.tell(2, 2, 1);
         Check.due("13: one of two", x.round(0, 0), 1);
-        dueGoes("13: the first of them", x, 2, NONE, NONE);
+        Check.dueGoes("13: the first of them", x, 2, NONE, NONE);
         x.tell(0, 22, 6);
         x.round(0, 0);
-        dueGoes("13: the cost ahead of the order", x, NONE, 2, NONE);
+        Check.dueGoes("13: the cost ahead of the order", x, NONE, 2, NONE);
     }
 
     private static void roundByTextAndDay() {
-        HostYear x = wishing(2, 0, 1, 1, 1, 0, 1);
+        HostYear x = Given.wishing(2, 0, 1, 1, 1, 0, 1);
         Check.read(x, 1, "trait t; bar p.t == 1;");
         x.clock(5);
         x.tell(0, 10, 1);
@@ -473,7 +434,7 @@ public final class PromisesTest {
     }
 
     private static void goesAndCosts() {
-        HostYear x = wishing(2, 0, 1, 4, 1, 0, 2);
+        HostYear x = Given.wishing(2, 0, 1, 4, 1, 0, 2);
         Check.due("14: no round at hand", x.goes(0), NONE);
         Check.due("15: no round at hand", x.costs(), NONE);
         x.round(0, 0);
@@ -493,11 +454,11 @@ public final class PromisesTest {
     }
 
     private static void take() {
-        HostYear x = wishing(2, 0, 1, 4, 1, 0, 2);
+        HostYear x = Given.wishing(2, 0, 1, 4, 1, 0, 2);
         Check.due("16: none at hand", x.take(), NONE);
         x.round(0, 0);
         Check.due("16: take()", x.take(), 2);
-        dueYear("16", x, 1, 0);
+        Check.dueYear("16", x, 1, 0);
         Check.due("16: once a year", x.take(), -2);
         x.fall(0);
         Check.due("16: also behind a fall", x.take(), -2);
@@ -513,7 +474,7 @@ public final class PromisesTest {
     }
 
     private static void takeNotClosed() {
-        HostYear x = wishing(2, 0, 1, 4, 1, 0, 2);
+        HostYear x = Given.wishing(2, 0, 1, 4, 1, 0, 2);
         x.round(1, 0);
         Check.read(x, 0, "bar 1 == 1;");
         Check.due("16: barred by slot 0", x.take(), -3);
@@ -524,7 +485,7 @@ public final class PromisesTest {
         Check.due("16: no home now", x.take(), -3);
         x.tell(1, 1, 1);
         Check.due("16: closed again", x.take(), 2);
-        x = wishing(2, 0, 1, 4);
+        x = Given.wishing(2, 0, 1, 4);
         x.tell(0, 3, 1);
         x.tell(1, 2, 1);
         x.round(0, 0);
@@ -540,7 +501,7 @@ public final class PromisesTest {
     }
 
     private static void fall() {
-        HostYear x = wishing(3, 0, 1, 1, 1, 2, 1, 2, 0, 1, 0, 2, 5);
+        HostYear x = Given.wishing(3, 0, 1, 1, 1, 2, 1, 2, 0, 1, 0, 2, 5);
         Check.due("17: no year", x.fall(0), NONE);
         x.round(0, 0);
         Check.due("17: only at hand", x.fall(0), NONE);
@@ -549,50 +510,50 @@ public final class PromisesTest {
             Check.due("17: family " + p, x.fall(p), NONE);
         }
         Check.due("17: fall(1)", x.fall(1), 1);
-        dueYear("17", x, 2, NONE, 0);
+        Check.dueYear("17", x, 2, NONE, 0);
         Check.due("17: fell out", x.of(1, 2), 1);
         Check.due("17: fall(1) again", x.fall(1), NONE);
         Check.due("17: the ring of two ends", x.fall(0), 1);
-        dueYear("17: nobody", x, NONE, NONE, NONE);
+        Check.dueYear("17: nobody", x, NONE, NONE, NONE);
         Check.due("17: who only moved did not fall out", x.of(2, 2), 0);
         Check.due("17: one without a place", x.fall(2), NONE);
     }
 
     private static void fallLeavesOthers() {
         // 0 - 1 and 2 - 3 in rings; as 0 falls, 1 could go in a ring with 2 and 3, who would move.
-        HostYear x = wishing(4, 0, 1, 1, 1, 0, 1, 2, 3, 1, 3, 2, 1, 1, 2, 1, 3, 1, 1);
+        HostYear x = Given.wishing(4, 0, 1, 1, 1, 0, 1, 2, 3, 1, 3, 2, 1, 1, 2, 1, 3, 1, 1);
         x.round(0, 0);
         x.take();
         Check.due("17: only one moves", x.fall(0), 1);
-        dueYear("17: though fewer go", x, NONE, NONE, 3, 2);
+        Check.dueYear("17: though fewer go", x, NONE, NONE, 3, 2);
         // One who had no place may get one, and does not MOVE by that.
-        x = wishing(3, 0, 1, 1, 1, 0, 1, 2, 1, 1);
+        x = Given.wishing(3, 0, 1, 1, 1, 0, 1, 2, 1, 1);
         x.tell(1, 3, 1);
         x.tell(0, 2, 1);
         x.tell(2, 3, 1);
         x.round(0, 0);
-        dueGoes("17: 0 goes first", x, 1, 0, NONE);
+        Check.dueGoes("17: 0 goes first", x, 1, 0, NONE);
         x.take();
         Check.due("17: none moves", x.fall(0), 0);
-        dueYear("17: 2 has the place now", x, NONE, 0, 1);
+        Check.dueYear("17: 2 has the place now", x, NONE, 0, 1);
         // By what is known now: who may not go any more moves too.
-        x = wishing(4, 0, 1, 1, 1, 0, 1, 2, 3, 1, 3, 2, 1);
+        x = Given.wishing(4, 0, 1, 1, 1, 0, 1, 2, 3, 1, 3, 2, 1);
         x.round(0, 0);
         x.take();
         x.tell(3, 0, 0);
         Check.due("17: all three others", x.fall(0), 3);
-        dueYear("17: nobody is left", x, NONE, NONE, NONE, NONE);
+        Check.dueYear("17: nobody is left", x, NONE, NONE, NONE, NONE);
     }
 
     private static void fallTwice() {
         // Behind the first fall 1 has no place; that it gets one by the second is no MOVE.
-        HostYear x = wishing(4, 0, 1, 1, 1, 0, 1, 2, 3, 1, 3, 2, 1, 1, 2, 1, 2, 1, 1);
+        HostYear x = Given.wishing(4, 0, 1, 1, 1, 0, 1, 2, 3, 1, 3, 2, 1, 1, 2, 1, 2, 1, 1);
         x.round(0, 0);
         x.take();
         Check.due("17: the first", x.fall(0), 1);
-        dueYear("17: behind the first", x, NONE, NONE, 3, 2);
+        Check.dueYear("17: behind the first", x, NONE, NONE, 3, 2);
         Check.due("17: the second", x.fall(3), 1);
-        dueYear("17: behind the second", x, NONE, 2, 1, NONE);
+        Check.dueYear("17: behind the second", x, NONE, 2, 1, NONE);
         Check.due("18: 2 moved", x.moved(0), 2);
         Check.due("18: 1 did not", x.moved(1), NONE);
         Check.due("17: 0 fell out", x.of(0, 2), 1);
@@ -602,7 +563,7 @@ public final class PromisesTest {
     }
 
     private static void moved() {
-        HostYear x = wishing(4, 0, 1, 1, 1, 2, 1, 2, 3, 1, 3, 0, 1);
+        HostYear x = Given.wishing(4, 0, 1, 1, 1, 2, 1, 2, 3, 1, 3, 0, 1);
         Check.due("18: ahead of any", x.moved(0), NONE);
         x.round(0, 0);
         x.take();
@@ -621,7 +582,7 @@ public final class PromisesTest {
     }
 
     private static void close() {
-        HostYear x = wishing(3, 0, 1, 1, 1, 2, 1, 2, 0, 1);
+        HostYear x = Given.wishing(3, 0, 1, 1, 1, 2, 1, 2, 0, 1);
         Check.due("19: without PLACES", x.close(), 0);
         Check.due("19: a year all the same", x.count(4), 1);
         x.tell(0, 5, 100);
@@ -648,7 +609,7 @@ public final class PromisesTest {
     }
 
     private static void closeDebts() {
-        HostYear x = wishing(3, 0, 1, 1, 1, 2, 1);
+        HostYear x = Given.wishing(3, 0, 1, 1, 1, 2, 1);
         x.tell(0, 3, 1);
         x.tell(2, 2, 1);
         x.tell(2, 5, 5);
@@ -666,7 +627,7 @@ public final class PromisesTest {
         x.tell(2, 20, 1);
         x.tell(0, 21, 0);
         Check.due("19: a chain back", x.round(0, 0), 1);
-        dueGoes("19", x, NONE, NONE, 0);
+        Check.dueGoes("19", x, NONE, NONE, 0);
         x.take();
         x.close();
         Check.due("19: the debt is gone", x.of(0, 3), 0);
@@ -676,7 +637,7 @@ public final class PromisesTest {
     }
 
     private static void link() {
-        HostYear x = wishing(6, 0, 1, 1, 1, 2, 1, 2, 0, 1, 3, 4, 1, 4, 5, 1);
+        HostYear x = Given.wishing(6, 0, 1, 1, 1, 2, 1, 2, 0, 1, 3, 4, 1, 4, 5, 1);
         x.tell(3, 3, 1);
         x.tell(5, 2, 1);
         Check.due("20: no year", x.link(0, 1), NONE);
@@ -698,7 +659,7 @@ public final class PromisesTest {
     }
 
     private static void linkOfTwelve() {
-        HostYear x = wishing(12);
+        HostYear x = Given.wishing(12);
         for (int f = 0; f < 12; f++) {
             x.tell(f, 20 + (f + 5) % 12, 9);
         }
@@ -711,7 +672,7 @@ public final class PromisesTest {
     }
 
     private static void of() {
-        HostYear x = wishing(3, 0, 1, 1, 1, 2, 1);
+        HostYear x = Given.wishing(3, 0, 1, 1, 1, 2, 1);
         x.tell(0, 3, 1);
         x.tell(2, 2, 1);
         x.round(0, 0);
@@ -734,7 +695,7 @@ public final class PromisesTest {
     }
 
     private static void count() {
-        HostYear x = wishing(2, 0, 1, 1, 1, 0, 1);
+        HostYear x = Given.wishing(2, 0, 1, 1, 1, 0, 1);
         x.clock(12);
         x.term(34);
         x.close();

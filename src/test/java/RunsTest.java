@@ -22,10 +22,14 @@ public final class RunsTest {
         new Model.Known("trait x;cost 3-p.x*h.x;", 0, -1, List.of(
             new Model.Rule(false, (p, h) -> 3 - p[0] * h[0], ALWAYS))));
 
+    /** A look at all of five FAMILIES, and the longest call ahead of it. */
+    private static final int LAST_CALLS = 150;
+
     private final Random random;
     private final HostYear x = new HostYear();
     private final Model m = new Model();
     private final int mostFamilies;
+    private int calls = 0;
 
     private RunsTest(int seed, int mostFamilies) {
         this.random = new Random(seed);
@@ -37,18 +41,20 @@ public final class RunsTest {
     }
 
     public static void main(String[] args) {
-        for (int seed = 0; seed < 900; seed++) {
+        for (int seed = 0; seed < 3000; seed++) {
             RunsTest run = new RunsTest(seed, 1 + seed % 5);
             run.begin();
-            for (int i = 0; i < 250; i++) {
+            while (run.calls < Calls.MOST - LAST_CALLS) {
                 run.call();
             }
             run.look();
+            Check.due("calls on one office are too many", run.calls > Calls.MOST, false);
         }
         Check.end("RunsTest");
     }
 
-    private static void due(String call, int got, int want) {
+    private void due(String call, int got, int want) {
+        calls++;
         Check.due(call, got, want);
     }
 
@@ -117,8 +123,8 @@ public final class RunsTest {
         switch (random.nextInt(22)) {
             case 0 -> text();
             case 1 -> due("read", x.read(slot), m.read(slot));
-            case 2 -> Check.due("clock", x.clock(day), m.clock(day));
-            case 3 -> Check.due("term", x.term(day), m.term(day));
+            case 2 -> due("clock", x.clock(day) ? 1 : 0, m.clock(day) ? 1 : 0);
+            case 3 -> due("term", x.term(day) ? 1 : 0, m.term(day) ? 1 : 0);
             case 4, 5 -> {
                 int what = anyWhat();
                 tell(a, what, anyValue(what));
@@ -145,7 +151,12 @@ public final class RunsTest {
                 int what = random.nextInt(9) - 1;
                 due("of " + a + " " + what, x.of(a, what), m.of(a, what));
             }
-            default -> look();
+            default -> {
+                int i = random.nextInt(7) - 1;
+                due("moved " + i, x.moved(i), m.moved(i));
+                due("goes " + i, x.goes(i), m.goes(i));
+                due("count " + (i + 3), x.count(i + 3), m.count(i + 3));
+            }
         }
         due("place", x.place(), m.place);
         due("costs", x.costs(), m.costs());
@@ -156,6 +167,7 @@ public final class RunsTest {
         Model.Known known = TEXTS.get(random.nextInt(TEXTS.size()));
         Check.lay(x, known.text());
         m.lay(known);
+        calls += 3 + known.text().length() / 20;
         int slot = anySlot();
         due("read <" + known.text() + ">", x.read(slot), m.read(slot));
     }
